@@ -46,12 +46,16 @@ final class Due {
     }
 
     static int town(LastWalker x, String text) {
-        tape(x, text);
-        return x.text(0, LastWalker.NONE);
+        return take(x, text, 0, LastWalker.NONE);
     }
 
     static int day(LastWalker x, String text) {
+        return take(x, text, 1, LastWalker.NONE);
+    }
+
+    /** Puts a text on the tape and has it taken. */
+    static int take(LastWalker x, String text, int sort, int at) {
         tape(x, text);
-        return x.text(1, LastWalker.NONE);
+        return x.text(sort, at);
     }
 }
