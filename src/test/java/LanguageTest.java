@@ -24,17 +24,28 @@ public final class LanguageTest {
         Matcher c = Pattern.compile("\\bclass \\w+").matcher(code);
         while (c.find()) classes++;
         due.is("at most twelve classes", classes <= 12, true);
-        int depth = 0;
-        int length = 0;
-        int longest = 0;
-        for (String line : code.split("\n")) {
-            boolean opens = Pattern.compile("^ {4,8}[a-zA-Z].*\\) \\{$|^ {12}[a-zA-Z].*[^;]\\) \\{$").matcher(line).find();
-            if (opens && depth <= 2) length = 0;
-            length++;
-            for (char ch : line.toCharArray()) depth += ch == '{' ? 1 : ch == '}' ? -1 : 0;
-            if (line.matches("^ {4}\\}|^ {8}\\}") && depth <= 2) longest = Math.max(longest, length);
-        }
-        due.is("the longest method has " + longest + " lines", longest <= 60, true);
+        int longest = longestMethod(code.split("\n"));
+        System.out.println("the longest method has " + longest + " lines");
+        due.is("the longest method", longest > 10 && longest <= 60, true);
         due.end();
+    }
+
+    /** Lines from a method's head to the brace that stands as far in as it does. */
+    private static int longestMethod(String[] lines) {
+        int longest = 0;
+        String in = "";
+        int from = -1;
+        for (int i = 0; i < lines.length; i++) {
+            Matcher head = Pattern.compile("^( {4}| {8})(public|private|static|int|void|long|boolean|[A-Z]).*\\(.*$").matcher(lines[i]);
+            if (from < 0 && head.find() && !lines[i].contains("=")) {
+                in = head.group(1);
+                from = i;
+            }
+            if (from >= 0 && lines[i].equals(in + "}")) {
+                longest = Math.max(longest, i - from + 1);
+                from = -1;
+            }
+        }
+        return longest;
     }
 }

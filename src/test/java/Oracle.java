@@ -426,6 +426,26 @@ final class Oracle {
         return t;
     }
 
+    /** As much of all as a town may have, as far as the text has room. */
+    static OTown fullTown(Random random) {
+        OTown t = new OTown();
+        t.places = 9;
+        for (int r = 0; r < 14; r++) {
+            int a = r < 8 ? r : random.nextInt(9);
+            int b = r < 8 ? r + 1 : (a + 1 + random.nextInt(8)) % 9;
+            t.roads.add(new int[] {a, b, 1 + random.nextInt(9), random.nextInt(10)});
+        }
+        for (int p = 0; p < 8; p++) t.people.add(new int[] {random.nextInt(9), random.nextInt(3), random.nextInt(3)});
+        for (int e = 0; e < 12; e++) {
+            t.errands.add(new int[] {random.nextInt(8), random.nextInt(9), random.nextInt(100), 50 + random.nextInt(50)});
+        }
+        for (int r = 0; r < 14; r += 3) t.has[13 - r] = random.nextInt(8);
+        for (int k = 0; k < 8; k++) t.busy[13 - random.nextInt(14)][random.nextInt(6)] = 1 + random.nextInt(99);
+        t.law = random.nextInt(4);
+        t.noon = t.law == 2 ? random.nextInt(100) : 0;
+        return t;
+    }
+
     static List<int[]> randomDay(Random random, OTown t) {
         List<int[]> day = new ArrayList<>();
         int n = random.nextInt(20);

@@ -15,6 +15,7 @@ public final class PromisesTest {
         tapeAndTexts();
         faults();
         laterLinesStrike();
+        afterAnotherTown();
         told();
         runs();
         runsThatStop();
@@ -126,6 +127,8 @@ public final class PromisesTest {
         fault(0, ";", 1, 0);
         fault(0, "last;;", 1, 5);
         fault(0, "lasts;", 1, 0);
+        fault(0, "lastz;", 1, 0);
+        fault(0, "lasta;", 1, 0);
         fault(0, "last;\tlast;", 1, 5);
         fault(0, "last 1;", 1, 5);
         fault(0, "Last;", 1, 0);
@@ -147,6 +150,10 @@ public final class PromisesTest {
         fault(0, "road 0 1 31 1;", 2, 9);
         fault(0, "road 0 1 30 99;", 0, NONE);
         fault(0, "road 0 1 1 100;", 2, 11);
+        fault(0, "short 9 1;", 2, 6);
+        fault(0, "short 0 10;", 2, 8);
+        fault(0, "cheap 9 1;", 2, 6);
+        fault(0, "cheap 0 10;", 2, 8);
         fault(0, "own 9 1;", 2, 4);
         fault(0, "own 0 10;", 2, 6);
         fault(0, "own 3 9;", 0, NONE);
@@ -195,6 +202,17 @@ public final class PromisesTest {
         due.is("has", x.road(0, 0, 4), 1);
         due.is("busy", x.road(0, 0, 10), 7);
         due.is("people", x.town(0, 2), 2);
+    }
+
+    /** Nothing of an earlier town comes into a later one. */
+    private static void afterAnotherTown() {
+        LastWalker x = told("places 9;noon 77;road 0 1 2 3;own 0 1;has 0 0;busy 0 0 5;errand 0 1 0 0;");
+        due.is("a later town", Due.town(x, "road 0 1 2 3;"), 1);
+        int[] town = {4, 1, 0, 0, 0, 0};
+        for (int w = 0; w < 6; w++) due.is("later town " + w, x.town(1, w), town[w]);
+        due.is("nobody's", x.road(1, 0, 4), NONE);
+        due.is("not busy", x.road(1, 0, 10), 0);
+        due.is("the first one stands", x.town(0, 5), 77);
     }
 
     // 6 to 10
@@ -315,6 +333,9 @@ public final class PromisesTest {
         due.is("met twice", x.run(0, 0, 1), 2);
         due.is("a state at the stop", x.state(0, 0, 6, 0), 19);
         due.is("none behind it", x.state(0, 0, 7, 0), -2);
+        LastWalker twice = told("places 2;road 0 1 1 5;short 0 0;short 0 0;has 1 0;first;", "go 0 0;wait 1;go 0 0;wait 1;go 1 0;");
+        due.is("paid twice", twice.paid(0, 0, 5, 0, 1), 10);
+        due.is("paid in all", twice.state(0, 0, 5, 1), 10);
         // One who went on the road and goes on another one walks it no more.
         due.is("no meeting", told(town, "go 0 0;wait 10;go 1 0;").run(0, 0, 1), 0);
     }
@@ -414,6 +435,12 @@ public final class PromisesTest {
         String noon = "places 3;road 0 1 30 0;road 1 2 1 10;own 0 0;busy 1 1 100;busy 1 2 40;";
         due.is("noon at 31", told(noon + "noon 31;").cost(0, NONE, 0, 0, 2, 0, 0, 2, false), -14 * UNIT);
         due.is("noon at 30", told(noon + "noon 30;").cost(0, NONE, 0, 0, 2, 0, 0, 2, false), 0);
+        // Behind the last hour there is no worth: hour 5 is the last, at 360 and later too.
+        LastWalker late = told("places 2;road 0 1 1 10;road 0 1 2 10;own 0 1;busy 0 5 100;busy 1 0 100;busy 1 5 100;");
+        due.is("at 299 the next hour is 5", late.cost(0, NONE, 0, 0, 2, 299, 0, 1, false), -9 * UNIT);
+        for (int minute : new int[] {300, 359, 360, 365, 366, 420, 999}) {
+            due.is("at " + minute, late.cost(0, NONE, 0, 0, 2, minute, 0, 1, false), UNIT);
+        }
         LastWalker first = told(noon + "own 0 0;has 1 1;first;");
         due.is("first: it stays another one's", first.cost(0, NONE, 0, 0, 2, 0, 0, 2, false), 10 * UNIT);
     }
@@ -762,6 +789,18 @@ public final class PromisesTest {
         due.is("moves", x.move(1, NONE, 0), 0);
         due.is("fault", x.fault(0), 0);
         due.is("places", x.town(0, 0), 2);
+        due.is("a tape", x.feed(0x6c617374, 0x3b202020, 0, 0, 0), 20);
+        due.is("image 1", x.image(1), true);
+        due.is("the tape is no more", x.end(0), 0);
+        due.is("in the place of day 0", Due.take(x, "wait 7;go 3 4;", 1, 0), 0);
+        due.is("in the place of day 1", Due.take(x, "wait 8;", 1, 1), 1);
+        due.is("again 1", x.again(1), true);
+        due.is("day 0", x.move(0, NONE, 0), 6);
+        due.is("day 0's first", x.move(0, 0, 0), 0);
+        due.is("day 1", x.move(1, NONE, 0), 0);
+        due.is("its tape", x.end(5), 5);
+        due.is("is \"last;\"", x.text(0, 0), 0);
+        due.is("image 2 is still there", x.again(2), true);
         due.is("image 0 anew", x.image(0), true);
         due.is("again 0", x.again(0), true);
         due.is("places", x.town(0, 0), 2);
