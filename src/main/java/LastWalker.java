@@ -12,6 +12,7 @@ public final class LastWalker {
 
     private static final int NO_SUCH = -2;
     private static final int NO_SUM = -100000;
+    private static final long NO_COST = -9223372036854775808L;
 
     private static final int TOWNS = 2;
     private static final int DAYS = 3;
@@ -50,6 +51,9 @@ public final class LastWalker {
 
     /** 100 to the 6: after six hours of hundredths worths are still whole numbers. */
     private static final long UNIT = 1000000000000L;
+    /** Above every minute and every cost that a way can come to. */
+    private static final int ALWAYS = 1000000000;
+    private static final long BEYOND = 1000000000000000000L;
 
     private final Book now;
     private final Book[] images;
@@ -376,14 +380,14 @@ public final class LastWalker {
             boolean back) {
         Town t = townOfState(town, day, n);
         if (t == null || !findWay(t, person, kind, minute, from, to)) {
-            return Long.MIN_VALUE;
+            return NO_COST;
         }
         long there = hunt.bestCost;
         if (!back) {
             return there;
         }
         hunt.takeRoadsOfBest(minute);
-        return hunt.seekWay(hunt.bestEnd, to, from) ? there + hunt.bestCost : Long.MIN_VALUE;
+        return hunt.seekWay(hunt.bestEnd, to, from) ? there + hunt.bestCost : NO_COST;
     }
 
     /** Lets the hunt look at the rounds from the runner's state; false if nobody could walk them. */
@@ -916,7 +920,7 @@ public final class LastWalker {
             if (owner == person || law == NO_LAW || law == FIRST && owner != NONE) {
                 return 0;
             }
-            return law == NOON ? noon : Integer.MAX_VALUE;
+            return law == NOON ? noon : ALWAYS;
         }
 
         long worthFrom(int road, int hour) {
@@ -1133,7 +1137,7 @@ public final class LastWalker {
         Reader() {
             town = new Town();
             day = new Day();
-            tape = new byte[TAPE];
+            tape = new byte[0];
             number = new int[NUMBERS];
             numberPlace = new int[NUMBERS];
         }
@@ -1680,7 +1684,7 @@ public final class LastWalker {
             }
             goal = to;
             been = 0;
-            bestCost = kind == SHORT ? fewest * UNIT : Long.MAX_VALUE;
+            bestCost = kind == SHORT ? fewest * UNIT : BEYOND;
             minuteCost = kind == SHORT ? UNIT : kind == OWN ? 0 : town.care[person] * UNIT;
             goOn(this, from, 0, minute, 0, weigh(minute));
             return bestCount > 0;

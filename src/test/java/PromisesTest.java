@@ -669,6 +669,7 @@ public final class PromisesTest {
         due.is("left -1", x.left(0, -1), NONE);
         due.is("left of no town", x.left(1, 0), NONE);
         due.is("minutes", x.minutes(0, 0, 2), 10);
+        due.is("minutes, asked first", told("places 3;road 0 1 5 1;road 1 2 5 1;").minutes(0, 2, 0), 10);
         due.is("minutes back", x.minutes(0, 2, 0), 10);
         due.is("minutes to itself", x.minutes(0, 5, 5), 0);
         due.is("minutes, no way", x.minutes(0, 0, 3), NONE);
