@@ -8,6 +8,9 @@ final class ErrandBounds {
             + "errand 0 2 0 100;errand 1 1 60 100;errand 2 0 90 100;";
     /** A long road for nothing, a short one for 50, which is 1's. */
     static final String TOLL = "places 2;road 0 1 12 0;road 0 1 9 50;cheap 0 1;short 0 0;has 1 1;";
+    /** Eight with twelve errands along one road of nine places: 0 .. 7, then 0 .. 3 back. */
+    static final String FULL = "places 9;road 7 8 3 7;" + "short 7 1;".repeat(8) + "errand 0 8 0 1;errand 1 8 1 1;errand 2 8 2 1;errand 3 8 3 1;"
+            + "errand 4 8 4 1;errand 5 8 5 1;errand 6 8 6 1;errand 7 8 7 1;errand 0 7 8 1;errand 1 7 9 1;errand 2 7 10 1;errand 3 7 11 1;";
     /** Bits that are no errands of a town with three. */
     static final int[] NO_BITS = {8, 9, 15, 4096, -1, -8, FAR[0], FAR[1]};
 
@@ -76,6 +79,10 @@ final class ErrandBounds {
         String noon = "places 3;road 0 1 20 4;road 1 2 30 5;short 0 1;errand 0 2 0 1;";
         s.is("noon 20", s.told(noon + "noon 20;").night(0, 1, 1, 0), NONE);
         s.is("noon 21", s.told(noon + "noon 21;").night(0, 1, 1, 0), 0);
+        // The third at 30, the fourth at 35.
+        String far = "places 5;road 0 1 20 1;road 1 2 10 1;road 2 3 5 1;road 3 4 1 1;short 0 1;errand 0 4 0 1;noon ";
+        int[] noons = {30, 31, 35, 36};
+        for (int i = 0; i < 4; i++) s.is("noon " + noons[i], s.told(far + noons[i] + ";").night(0, 1, NONE, 0), 2 + (i + 1) / 2);
         // 0 walks road 1 at 20 and 1 walks it at 5, but all of 0's way is ahead of 1's errand.
         LastWalker x = s.told("places 3;road 0 1 20 4;road 1 2 30 5;short 0 1;short 1 1;errand 0 2 0 1;errand 1 2 5 1;");
         s.is("1 pays", x.all(0, 3, 1, 1), 5);
@@ -115,6 +122,10 @@ final class ErrandBounds {
         s.is("one pays without going? no", x.all(0, 4, 0, 1), 0);
         s.is("2 gets by 0's errand alone", x.all(0, 1, 2, 2), 3);
         s.is("nobody's gets nothing", x.all(0, 2, NONE, 2), 0);
+        LastWalker full = s.told(FULL);
+        s.is("twelve of eight", full.all(0, 4095, NONE, 0), 36);
+        s.is("eleven pay", full.all(0, 4095, NONE, 1), 77);
+        s.is("7 gets", full.all(0, 4095, 7, 2), 7);
     }
 
     private static void needless(Sentences s) {
@@ -191,6 +202,9 @@ final class ErrandBounds {
         s.is("1", x.still(0, 7, 1), 0);
         s.is("2: 0 pays 3", x.still(0, 7, 2), -3);
         s.is("2 of none", x.still(0, 0, 2), 0);
+        LastWalker full = s.told(FULL);
+        s.is("7 of 8", full.still(0, 4095, 7), 0);
+        s.is("6: 7 pays", full.still(0, 4095, 6), 0);
         s.is("all of his", s.told(LINE + "errand 2 1 100 1;").still(0, 15, 2), -3);
         s.is("as if he was not asked", x.still(0, 6, 0), x.all(0, 6, 0, 4));
 

@@ -13,6 +13,12 @@ final class OtherwiseBounds {
     private static final String TURNS = "places 3;road 0 1 10 50;road 1 2 1 0;road 0 2 10 0;short 0 1;short 0 1;"
             + "errand 0 2 0 100;errand 1 1 60 100;busy 0 1 100;";
 
+    private static final String TWENTY = "places 3;road 0 2 8 38;road 2 0 8 8;road 1 2 17 85;road 1 0 8 2;road 0 2 7 8;own 0 2;own 2 1;"
+            + "short 2 0;own 2 0;cheap 1 2;short 2 1;errand 2 0 82 1;errand 1 1 94 1;errand 0 2 109 1;errand 4 2 126 1;"
+            + "errand 3 1 156 1;errand 5 1 143 1;has 2 0;has 5 3;has 3 4;busy 0 3 98;busy 3 3 62;";
+    /** From 0 to 2 by one road of 30, or over two of 9 that each ask for 50, which are 1's. */
+    private static final String BOTH = "places 3;road 0 1 9 50;road 1 2 9 50;road 0 2 30 0;cheap 0 1;short 0 0;has 1 0;has 1 1;errand 0 2 0 1;";
+
     static void test(Sentences s) {
         otherIs(s);
         turnedIs(s);
@@ -113,6 +119,11 @@ final class OtherwiseBounds {
             s.is(law + " all cheap but the first", x.rests(0, 255, true), (6561 - 3) / 2);
             s.is(law + " they are as they were", x.person(0, 1, 2), 0);
         }
+        // Twenty turns as the oracle has them; if 5 was own, one more would be wanted.
+        s.is("20 turns", s.told(TWENTY).rests(0, 63, false), 20);
+        s.is("kinds behind them", s.told(TWENTY).rests(0, 63, true), 367);
+        s.is("21 turns", s.told(TWENTY.replace("short 2 1", "own 2 1")).rests(0, 63, false), NONE);
+        s.is("kinds behind the 20th", s.told(TWENTY.replace("short 2 1", "own 2 1")).rests(0, 63, true), 286);
         s.is("0 own, 1 cheap, 0 short", s.told(TURNS).rests(0, 3, false), 3);
         s.is("short and cheap", s.told(TURNS).rests(0, 3, true), 3);
     }
@@ -133,6 +144,9 @@ final class OtherwiseBounds {
         String lure = "road 0 1 9 0;road 0 1 12 50;own 0 1;busy 1 1 100;";
         s.is("it lured him", s.told(lure + errand).all(0, 1, 0, 0), 12);
         s.is("it does no more", s.told(lure + errand).free(0, 1), 1);
+        s.is("one road alone, not both", s.told(BOTH).free(0, 1), NONE);
+        s.is("the one that is wanted", s.told(BOTH + "has 0 1;").free(0, 1), 0);
+        s.is("14 roads, 9 places", s.told("places 9;" + "road 7 8 1 1;".repeat(14) + "own 7 1;errand 0 8 0 1;").free(0, 1), NONE);
         LastWalker x = s.told(TOLL + errand);
         x.free(0, 1);
         s.is("its penny is as it was", x.road(0, 1, 3), 50);
@@ -171,6 +185,10 @@ final class OtherwiseBounds {
         // It is enough that others pay.
         s.is("what others pay", s.told("places 2;road 0 1 5 3;short 0 1;short 0 1;errand 1 1 0 1;").house(0, 1, 0, true), 0);
         s.is("a penny of 0", s.told("places 2;road 0 1 5 0;short 0 1;short 0 1;errand 1 1 0 1;").house(0, 1, 0, true), NONE);
+        s.is("one road alone, not both", s.told(BOTH).house(0, 1, 0, true), NONE);
+        s.is("the one that is wanted", s.told(BOTH + "has 0 0;").house(0, 1, 0, true), 1);
+        s.is("road 13", s.told("places 9;" + "road 7 8 2 1;".repeat(13) + "road 7 8 1 9;cheap 7 1;own 7 1;has 1 13;errand 0 8 0 1;")
+                .house(0, 1, 0, true), 13);
         LastWalker x = s.told(TOLL + errand);
         x.house(0, 1, 0, true);
         s.is("it is whose it was", x.road(0, 1, 4), 1);

@@ -46,6 +46,7 @@ final class PlaceBounds {
         s.is("roads 0 and 3", s.told(APART).needs(0, NONE), 9);
         s.is("no errands", s.told("road 0 1 1 1;own 0 1;").needs(0, NONE), 0);
         s.is("no roads", s.told("own 0 1;errand 0 1 0 1;").needs(0, NONE), 0);
+        s.is("14 roads, none alone", s.told("places 9;" + "road 7 8 1 1;".repeat(14) + "own 7 1;errand 0 8 0 1;").needs(0, NONE), 0);
         s.is("road 13", s.told("places 4;" + "road 1 2 1 1;".repeat(13) + "road 0 3 1 1;own 0 1;errand 0 3 0 1;").needs(0, NONE), 8192);
     }
 
@@ -63,6 +64,7 @@ final class PlaceBounds {
         s.is("each errand counts", z.live(0, 0, false), 2);
         s.is("8", z.live(0, 0, true), 8);
         s.is("another one's do not", s.told(line + "own 0 1;errand 1 0 0 1;errand 0 2 0 1;").live(0, 0, false), 2);
+        s.is("the last of nine", s.told("places 9;road 7 8 5 1;own 7 1;errand 0 8 0 1;").live(0, 0, false), 8);
         s.is("without roads, one place", s.told("own 0 1;errand 0 3 0 1;errand 0 3 9 1;").live(0, 0, false), 3);
         s.is("without roads, two places", s.told("own 0 1;errand 0 3 0 1;errand 0 2 9 1;").live(0, 0, false), NONE);
     }
@@ -167,6 +169,12 @@ final class PlaceBounds {
         s.is("0 to 2", x.minutes(0, 0, 2), 10);
         s.is("2 to 0", x.minutes(0, 2, 0), 10);
         for (int p = 0; p < 6; p++) s.is("of " + p, x.minutes(0, p, p), 0);
+        for (int over = 0; over < 3; over++) {
+            int a = (over + 1) % 3;
+            int b = (over + 2) % 3;
+            String town = "places 3;road " + a + " " + over + " 7 0;road " + over + " " + b + " 8 0;";
+            s.is("over " + over, s.told(town).minutes(0, a, b), 15);
+        }
         s.is("over two roads below one", s.told("places 3;road 0 2 30 0;road 0 1 14 0;road 1 2 15 0;").minutes(0, 0, 2), 29);
         StringBuilder line = new StringBuilder("places 9;");
         for (int p = 8; p > 0; p--) line.append("road ").append(p).append(' ').append(p - 1).append(" 30 1;");

@@ -82,6 +82,10 @@ final class RunBounds {
         s.is("to him", x.paid(0, 0, 1, 0, 2), 5);
         s.is("to nobody else", x.paid(0, 0, 1, 0, 1), 0);
         s.is("not ahead", x.state(0, 0, 0, 1), 0);
+        LastWalker twice = s.told(ONE + "has 2 0;first;", "go 0 0;go 1 0;wait 1;go 0 0;");
+        s.is("twice to one", twice.paid(0, 0, 4, 0, 2), 10);
+        s.is("and once", twice.paid(0, 0, 4, 1, 2), 5);
+        s.is("15 in all", twice.state(0, 0, 4, 1), 15);
         s.is("a penny of 0", s.told("road 0 1 1 0;own 0 1;own 0 1;has 1 0;", "go 0 0;").state(0, 0, 1, 1), 0);
     }
 

@@ -112,6 +112,9 @@ final class TextBounds {
         LastWalker w = new LastWalker();
         s.is("a text of 600 bytes", Due.take(w, " ".repeat(595) + "none;", 0, NONE), 0);
         s.is("is read to its end", w.town(0, 4), 3);
+        String[] ends = {"none", "noon 123", "noon 1234", "nones", ";", "?"};
+        int[] places = {600, 600, 596, 595, 599, 599};
+        for (int i = 0; i < ends.length; i++) fault(s, 0, " ".repeat(600 - ends[i].length()) + ends[i], 1, places[i]);
     }
 
     private static void end(Sentences s) {
@@ -127,6 +130,20 @@ final class TextBounds {
         Due.tape(x, "?");
         s.is("end(0)", x.end(0), 0);
         s.is("nothing is left", x.text(0, NONE), 1);
+
+        // What was behind them is not read, be it that a word or a number went on there.
+        LastWalker cut = new LastWalker();
+        Due.tape(cut, "noon 789;lasts;");
+        cut.end(6);
+        s.is("noon 7", cut.text(0, NONE), NONE);
+        s.is("its end", cut.fault(1), 6);
+        Due.tape(cut, "lasts;lasts;");
+        cut.end(4);
+        s.is("last", cut.text(0, NONE), NONE);
+        s.is("its end", cut.fault(1), 4);
+        Due.tape(cut, "first;lasts;");
+        cut.end(6);
+        s.is("first;", cut.text(0, NONE), 0);
 
         s.promise(3, "NONE if it has not so many, or n is below 0.");
         LastWalker y = new LastWalker();
@@ -305,6 +322,18 @@ final class TextBounds {
         bounds(s, 0, "own 0 1;errand 0 1 0 #;", 0, 100);
     }
 
+    /** What is so "at first" is so in a town that is told behind another one, or in its place. */
+    private static void atFirst(Sentences s, LastWalker x, int town) {
+        s.is("4 places", x.town(town, 0), 4);
+        s.is("last", x.town(town, 4), 0);
+        s.is("no noon", x.town(town, 5), 0);
+        s.is("nobody's", x.road(town, 0, 4), NONE);
+        for (int h = 0; h < 6; h++) s.is("not busy", x.road(town, 0, 10 + h), 0);
+        s.is("one road", x.town(town, 1), 1);
+        s.is("nobody", x.town(town, 2), 0);
+        s.is("no errands", x.town(town, 3), 0);
+    }
+
     private static void hasBusyLaw(Sentences s) {
         s.term(1, "HAS: whose a ROAD is at first (nobody's, if it is not told)");
         LastWalker x = s.told("road 0 1 1 1;road 0 1 1 1;road 0 1 1 1;own 0 1;own 0 1;has 0 1;has 1 2;");
@@ -327,6 +356,12 @@ final class TextBounds {
         String[] laws = {"last;", "first;", "noon 5;", "none;"};
         for (int law = 0; law < 4; law++) s.is(laws[law], s.told(laws[law]).town(0, 4), law);
         s.is("at first", s.told("").town(0, 4), 0);
+        LastWalker w = s.told("places 9;noon 7;road 0 1 1 1;own 0 1;errand 0 1 1 1;has 0 0;busy 0 0 9;busy 0 5 9;");
+        Due.take(w, "road 0 1 1 1;", 0, NONE);
+        atFirst(s, w, 1);
+        Due.take(w, "none;busy 0 0 9;", 0, NONE);
+        Due.take(w, "road 0 1 1 1;", 0, 0);
+        atFirst(s, w, 0);
         bounds(s, 0, "noon #;", 0, 999);
         s.is("noon 999", s.told("noon 999;").town(0, 5), 999);
 

@@ -72,6 +72,8 @@ final class WayBounds {
         s.is("hour 0, from 1 on", cost(y, 0, OWN, 0, 0, 1), -10 * UNIT);
         s.is("hour 4, from 5 on", cost(y, 0, OWN, 299, 0, 1), -10 * UNIT);
         for (int minute : new int[] {300, 359, 360, 419, 420, 999}) s.is("hour 5 at " + minute, cost(y, 0, OWN, minute, 0, 1), 0);
+        LastWalker z = s.told("places 2;road 0 1 1 10;road 0 1 2 10;own 0 1;busy 0 0 100;busy 1 0 100;busy 1 5 100;");
+        for (int minute : new int[] {300, 359, 360, 365, 419, 420, 999}) s.is("of two roads at " + minute, cost(z, 0, OWN, minute, 0, 1), UNIT);
         // A way that begins at 999 goes on behind it.
         s.is("at 1029", x.way(0, NONE, 0, 0, SHORT, 999, 0, 2, 1), 31);
     }
@@ -140,6 +142,24 @@ final class WayBounds {
         s.is("own goes far", way(v, OWN, 0, 2, 0), 2);
         s.is("for 2 less 18", cost(v, 0, OWN, 0, 0, 2), -16 * UNIT);
         s.is("short does not", way(v, SHORT, 0, 2, 0), 1);
+        // What a way brings at its end counts, whatever it costs until there: 10 and 40 less 99 against 5.
+        String end = "places 3;road 0 2 1 0;road 0 1 1 40;road 1 2 1 99;own 0 5;own 0 5;has 1 1;busy 2 ";
+        for (int hour = 1; hour <= 5; hour++) {
+            LastWalker q = s.told(end + hour + " 100;");
+            s.is("the last road brings 99 in hour " + hour, q.way(0, NONE, 0, 0, OWN, 60 * hour - 2, 0, 2, 0), 2);
+            s.is("its cost", cost(q, 0, OWN, 60 * hour - 2, 0, 2), (50 - 99) * UNIT);
+            s.is("too late", q.way(0, NONE, 0, 0, OWN, 60 * hour - 1, 0, 2, 0), 1);
+        }
+        // The first row leads over 1 and 3; what is better goes over 3 as well.
+        LastWalker p = s.told("places 5;road 0 1 1 0;road 1 3 9 0;road 3 2 1 0;road 0 3 2 0;road 3 4 1 0;road 4 2 1 0;own 0 1;");
+        for (int kind = SHORT; kind <= OWN; kind++) {
+            s.is("over 3", way(p, kind, 0, 2, 1), 3);
+            s.is("by road 3", way(p, kind, 0, 2, 10), 3);
+            s.is("and road 2", way(p, kind, 0, 2, 11), 2);
+            s.is("to 4", way(p, kind, 0, 4, 1), 3);
+        }
+        LastWalker o = s.told("places 9;" + "road 7 8 2 1;".repeat(13) + "road 8 7 1 1;own 0 1;");
+        for (int kind = SHORT; kind <= OWN; kind++) s.is("the last of 14", way(o, kind, 7, 8, 10), 13);
         // Of equal cost the fewest roads, worths counted: 1 against 2 less 1.
         LastWalker u = s.told("places 3;road 0 1 1 1;road 1 2 1 0;road 0 2 1 0;own 0 1;busy 0 1 100;");
         s.is("of equal cost", way(u, OWN, 0, 2, 0), 1);
@@ -156,6 +176,13 @@ final class WayBounds {
         // By noon 11 road 1, walked at 10, is his; by noon 10 it is not.
         s.is("noon 11", s.told(TOWN + "noon 11;").cost(0, NONE, 0, 0, CHEAP, 0, 0, 2, true), 33 * UNIT);
         s.is("noon 10", s.told(TOWN + "noon 10;").cost(0, NONE, 0, 0, CHEAP, 0, 0, 2, true), 36 * UNIT);
+        // The third road is walked at 7, as is the fourth at 12.
+        String four = "places 5;road 0 1 3 0;road 1 2 4 0;road 2 3 5 7;road 3 4 6 8;cheap 0 0;own 0 0;has 1 2;has 1 3;noon ";
+        int[] noons = {7, 8, 12, 13};
+        int[] paid = {30, 23, 23, 15};
+        for (int i = 0; i < 4; i++) {
+            s.is("noon " + noons[i], s.told(four + noons[i] + ";").cost(0, NONE, 0, 0, CHEAP, 0, 0, 4, true), paid[i] * UNIT);
+        }
         // There at 30 the way back is walked in hour 1: road 1 is worth 4 then, and it was 10.
         LastWalker y = s.told("places 2;road 0 1 30 20;road 0 1 30 10;own 0 0;busy 0 1 100;busy 1 1 100;busy 1 2 40;");
         s.is("there for 20, back for 4", y.cost(0, NONE, 0, 0, OWN, 30, 0, 1, true), -24 * UNIT);
@@ -197,6 +224,11 @@ final class WayBounds {
         LastWalker least = s.told("places 2;road 0 1 1 1;road 0 1 1 2;own 0 1;busy 0 1 100;busy 1 1 50;busy 1 2 1;");
         s.is("a hundredth below is one", least.round(0, NONE, 0, 0, 0, 0, 0), 2);
         s.is("its cost", least.gain(0, NONE, 0, 0, 0, 0), -UNIT / 100);
+        // What it brings at its end counts: 40 less 99.
+        LastWalker end = s.told("places 2;road 0 1 20 0;road 1 0 20 99;own 0 1;busy 1 3 100;");
+        s.is("road 1 brings 99", end.gain(0, NONE, 0, 0, 140, 0), -59 * UNIT);
+        s.is("at 160 it does", end.rounds(0, NONE, 0, 0, 140, 0), 2);
+        s.is("at 180 it does not", end.rounds(0, NONE, 0, 0, 160, 0), 1);
         // Whatever kind he is of, a round's cost is that of own.
         s.is("of short", s.told(RING.replace("own 0 1", "short 0 1")).gain(0, NONE, 0, 0, 0, 0), -17 * UNIT);
         s.is("of cheap", s.told(RING.replace("own 0 1", "cheap 0 1")).gain(0, NONE, 0, 0, 0, 0), -17 * UNIT);
@@ -230,6 +262,9 @@ final class WayBounds {
         s.is("rows of three roads", s.told(three).rounds(0, NONE, 0, 0, 0, 0), 6);
         // Cost 0 does not count.
         s.is("cost 0", s.told("places 2;road 0 1 1 1;road 0 1 1 1;own 0 1;busy 0 1 100;busy 1 1 100;").rounds(0, NONE, 0, 0, 0, 0), 0);
+        // Nor where a further road would bring something: 0 and 1 cost 0, with 2 each is below.
+        s.is("cost 0 among others", s.told("places 2;road 0 1 1 1;road 0 1 1 1;road 0 1 1 5;own 0 1;busy 0 1 100;busy 1 1 100;busy 2 1 100;")
+                .rounds(0, NONE, 0, 0, 0, 0), 4);
         // Of six roads: 6 * 5, 6 * 5 * 4 * 3 and all 720.
         StringBuilder six = new StringBuilder("places 2;own 0 0;first;");
         for (int r = 0; r < 6; r++) six.append("road 0 1 1 9;busy ").append(r).append(" 1 1;");
